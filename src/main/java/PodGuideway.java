@@ -360,9 +360,13 @@ public final class PodGuideway {
         }
 
         private void moveSlots() {
-            int last = read(podInSlot, PLACES - 1);
-            System.arraycopy(podInSlot, 0, podInSlot, 1, PLACES - 1);
-            write(podInSlot, 0, last);
+            int last = podInSlot.length - 1;
+            if (last < 1) {
+                return;
+            }
+            int pod = read(podInSlot, last);
+            System.arraycopy(podInSlot, 0, podInSlot, 1, last);
+            write(podInSlot, 0, pod);
         }
 
         private void letGoOff(int station) {
