@@ -2,8 +2,18 @@
 final class Check {
     private static int made = 0;
     private static int wrong = 0;
+    private static String test = "";
 
     private Check() {
+    }
+
+    static int made() {
+        return made;
+    }
+
+    /** What is looked at from here on is told with this name. */
+    static void begin(String name) {
+        test = name + ": ";
     }
 
     static void due(String what, long got, long want) {
@@ -98,7 +108,7 @@ final class Check {
     private static void tellWrong(String what, String got, String want) {
         wrong++;
         if (wrong <= 40) {
-            System.out.println(what + ": answered " + got + ", due is " + want);
+            System.out.println(test + what + ": answered " + got + ", due is " + want);
         }
     }
 }
