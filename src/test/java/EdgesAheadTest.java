@@ -173,7 +173,7 @@ public final class EdgesAheadTest {
     }
 
     @Says("if nothing is done, at most 200; -1 if not by then,")
-    private static void promise12TheLatestThatIsKnown() {
+    private static void promise12NinePodsGoByBeforeItMerges() {
         // Nine pods in a row go by, two of smaller berths go first, and it is 23 places on.
         PodGuideway x = Check.ring(0, 23, 15, 18, 21, 10);
         for (int pod = 0; pod < 12; pod++) {
@@ -193,6 +193,30 @@ public final class EdgesAheadTest {
         Check.due("the minute ahead", Check.told(x, 2), "22 -1 -1 1 0 0");
         x.pass(1);
         Check.due("it has gone off", Check.told(x, 2), "-1 1 2 -1 0 0");
+    }
+
+    @Says("if nothing is done, at most 200; -1 if not by then,")
+    private static void promise12BarredAfterAWholeRound() {
+        // Pods 0, 2 and 4 come to station 0 just ahead of pod 6, and are called away behind it:
+        // until then station 2, which is nearer to station 4, has pods that answer.
+        PodGuideway x = Check.ring(0, 1, 12, 13, 18);
+        for (int pod = 0; pod < 6; pod++) {
+            x.pod(pod % 2 == 0 ? 1 : 3);
+        }
+        for (int pod = 0; pod < 6; pod++) {
+            x.send(pod, pod % 2 == 0 ? 0 : 2);
+        }
+        x.pass(3);
+        x.send(x.pod(1), 0);
+        for (int rider = 0; rider < 9; rider++) {
+            x.ride(4, 1);
+        }
+        Check.due("ready", x.when(6), 48);
+        x.pass(24);
+        Check.due("barred", Check.told(x, 6), "0 -1 -1 0 0 1");
+        Check.due("a round more", x.when(6), 24);
+        x.pass(24);
+        Check.due("it has gone off", Check.told(x, 6), "-1 0 0 -1 0 1");
     }
 
     @Says("(nothing is changed)")

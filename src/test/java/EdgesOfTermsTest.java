@@ -879,6 +879,27 @@ public final class EdgesOfTermsTest {
     }
 
     @Says("the pod that is ready in the berth with the smallest number goes into it.")
+    private static void step5WhoComesInAndIsReadyAtOnceGoesInItsTurn() {
+        // Two are ready; pod 3 comes into the free berth, ahead of them or behind, and is taken.
+        for (int free = 0; free < 3; free += 2) {
+            PodGuideway x = Check.ring(0, 23);
+            x.pod(0);
+            x.pod(0);
+            x.pod(0);
+            x.pod(1);
+            x.send(free, 1);
+            x.send(3, 0);
+            x.pass(1);
+            x.send(1, 1);
+            x.send(2 - free, 1);
+            x.ride(0, 1);
+            x.pass(1);
+            Check.due("who has merged", x.slot(0), free == 0 ? 3 : 0);
+            Check.due("two are ready", Check.station(x, 0), "0 2 0 0 0 0 0");
+        }
+    }
+
+    @Says("the pod that is ready in the berth with the smallest number goes into it.")
     private static void step5IdlePodsDoNotMerge() {
         PodGuideway x = fullBerths();
         x.send(2, 1);
