@@ -7,17 +7,7 @@ public final class AheadTest {
     }
 
     public static void main(String[] args) {
-        promise12When();
-        promise12WhenBarred();
-        promise12WhenRefuses();
-        promise13Takes();
-        promise13TakesAtMost200();
-        promise13TakesRefuses();
-        promise14Answers();
-        promise14AnswersRefuses();
-        promise15Foresee();
-        promise15ForeseeRefuses();
-        Check.finish();
+        Tests.runAll(AheadTest.class);
     }
 
     private static int when(PodGuideway x, int pod) {
@@ -48,6 +38,12 @@ public final class AheadTest {
         return answer;
     }
 
+    @Says({
+        "- `pod`: a pod",
+        "Returns in how many minutes it goes off into a berth of its goal (1 for the next "
+            + "minute), if nothing is done, at most 200; -1 if not by then, or if it has no goal "
+            + "(nothing is changed)."
+    })
     private static void promise12When() {
         PodGuideway x = Check.ring(22, 2);
         x.pod(0);
@@ -67,6 +63,7 @@ public final class AheadTest {
         Check.due("there", when(x, 0), -1);
     }
 
+    @Says("if nothing is done, at most 200; -1 if not by then,")
     private static void promise12WhenBarred() {
         PodGuideway x = Check.ring(0, 1);
         x.pod(1);
@@ -87,6 +84,7 @@ public final class AheadTest {
         Check.due("in and off again", when(x, 3), 1);
     }
 
+    @Says("Throws `IndexOutOfBoundsException` if there is no such pod")
     private static void promise12WhenRefuses() {
         PodGuideway x = Check.ring(0, 1);
         x.pod(0);
@@ -95,6 +93,12 @@ public final class AheadTest {
         }
     }
 
+    @Says({
+        "- `from`: a station",
+        "- `to`: a station",
+        "Returns in how many minutes a rider who came now, as the last one there, would "
+            + "arrive (1 for the next minute), if nothing else is done,"
+    })
     private static void promise13Takes() {
         PodGuideway x = Check.ring(3, 10, 20);
         Check.due("without pods", takes(x, 0, 1), -1);
@@ -110,6 +114,7 @@ public final class AheadTest {
         Check.due("riders who wait are the same", x.count(3), 0);
     }
 
+    @Says("at most 200; -1 if not by then, or if 9 wait there (nothing is changed).")
     private static void promise13TakesAtMost200() {
         // One pod goes round and round: the rider with the number k gets in at 1 + 24 * k.
         PodGuideway x = Check.ring(0, 7, 8);
@@ -139,6 +144,10 @@ public final class AheadTest {
         Check.due("9 wait there, 3 pods", takes(y, 0, 1), -1);
     }
 
+    @Says({
+        "Throws `IndexOutOfBoundsException` if there is no such station",
+        "Throws `IllegalArgumentException` if both are the same"
+    })
     private static void promise13TakesRefuses() {
         PodGuideway x = Check.ring(0, 7);
         Check.refused(x, "takes from -1", BOUNDS, () -> x.takes(-1, 0));
@@ -156,6 +165,11 @@ public final class AheadTest {
         Check.refused(x, "takes to nowhere where 9 wait", BOUNDS, () -> x.takes(0, 2));
     }
 
+    @Says({
+        "- `station`: a station",
+        "Returns the station that would answer, if it called now, as all is now (whether "
+            + "it would call or not); -1 if none would."
+    })
     private static void promise14Answers() {
         PodGuideway x = Check.ring(0, 10, 20);
         Check.due("no pods", answers(x, 0), -1);
@@ -174,6 +188,7 @@ public final class AheadTest {
         Check.due("who calls may have riders or none", answers(x, 2), 0);
     }
 
+    @Says("Throws `IndexOutOfBoundsException` if there is no such station")
     private static void promise14AnswersRefuses() {
         PodGuideway x = Check.ring(0, 10);
         for (int station : new int[] {-1, 2, 6, Integer.MIN_VALUE, Integer.MAX_VALUE}) {
@@ -181,6 +196,11 @@ public final class AheadTest {
         }
     }
 
+    @Says({
+        "- `minutes`: how many, 1 to 100",
+        "- `what`: 3, 4, 5, 6 or 7 as count() has it",
+        "Returns this, behind so many minutes, if nothing is done (nothing is changed)."
+    })
     private static void promise15Foresee() {
         PodGuideway x = Check.ring(0, 3);
         x.pod(0);
@@ -203,6 +223,10 @@ public final class AheadTest {
         Check.due("all that arrived", foresee(x, 100, 5), 4);
     }
 
+    @Says({
+        "Throws `IllegalArgumentException` if minutes is not 1 to 100",
+        "Throws `IndexOutOfBoundsException` if what is none of these"
+    })
     private static void promise15ForeseeRefuses() {
         PodGuideway x = Check.ring(0, 3);
         for (int minutes : new int[] {0, -1, 101, Integer.MIN_VALUE, Integer.MAX_VALUE}) {

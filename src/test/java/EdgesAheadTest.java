@@ -9,7 +9,7 @@ public final class EdgesAheadTest {
     }
 
     public static void main(String[] args) {
-        Edges.runAll(EdgesAheadTest.class);
+        Tests.runAll(EdgesAheadTest.class);
     }
 
     // ---- promise 11

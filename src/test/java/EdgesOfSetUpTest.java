@@ -7,7 +7,7 @@ public final class EdgesOfSetUpTest {
     }
 
     public static void main(String[] args) {
-        Edges.runAll(EdgesOfSetUpTest.class);
+        Tests.runAll(EdgesOfSetUpTest.class);
     }
 
     // ---- promise 1

@@ -7,7 +7,7 @@ public final class EdgesOfTellingTest {
     }
 
     public static void main(String[] args) {
-        Edges.runAll(EdgesOfTellingTest.class);
+        Tests.runAll(EdgesOfTellingTest.class);
     }
 
     // ---- promise 6

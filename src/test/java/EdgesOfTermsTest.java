@@ -4,7 +4,7 @@ public final class EdgesOfTermsTest {
     }
 
     public static void main(String[] args) {
-        Edges.runAll(EdgesOfTermsTest.class);
+        Tests.runAll(EdgesOfTermsTest.class);
     }
 
     // ---- calls and time
@@ -53,7 +53,7 @@ public final class EdgesOfTermsTest {
 
     // ---- the ring
 
-    @Says("It has 24 places, 0 to 23;")
+    @Says("Ring. It has 24 places, 0 to 23;")
     private static void ringHasThePlaces0To23() {
         PodGuideway x = Edges.empty();
         Check.due("slots", x.count(6), 24);
@@ -130,7 +130,7 @@ public final class EdgesOfTermsTest {
 
     // ---- stations
 
-    @Says("There are at most 6, numbered from 0 in the order of their building;")
+    @Says("Stations. There are at most 6, numbered from 0 in the order of their building;")
     private static void stationsAreNumbered0To5() {
         PodGuideway x = Edges.empty();
         int[] places = {23, 0, 11, 12, 22, 1};
@@ -216,7 +216,7 @@ public final class EdgesOfTermsTest {
 
     // ---- pods
 
-    @Says("There are at most 12, numbered likewise;")
+    @Says("Pods. There are at most 12, numbered likewise;")
     private static void podsAreNumbered0To11() {
         PodGuideway x = Edges.sixStations();
         for (int pod = 0; pod < 12; pod++) {
@@ -923,7 +923,7 @@ public final class EdgesOfTermsTest {
 
     // ---- step 6
 
-    @Says("Each rider who waits has waited for a minute more.")
+    @Says("6. Each rider who waits has waited for a minute more.")
     private static void step6RidersWaitForAMinuteMore() {
         PodGuideway x = Edges.nineWait();
         Check.due("just come", x.waits(0, 8), 1);

@@ -6,27 +6,15 @@ public final class MinuteTest {
     }
 
     public static void main(String[] args) {
-        passAnswersArrivals();
-        passRefuses();
-        oncePerMinute();
-        step1And2PastOtherStations();
-        step2SmallestBerth();
-        step2FullBerths();
-        step2And3And5InOneMinute();
-        step3OrderOfBoarding();
-        step3NobodyBoardsReadyPods();
-        step3OnlyAfterAllWentOff();
-        step4NearestAnswers();
-        step4OneCallAMinute();
-        step4CountsSentPodsButNoRiders();
-        step4LowerStationFirst();
-        step4RidersAtHomeFirst();
-        step5SlotMustBeFree();
-        step5SmallestBerth();
-        Check.finish();
+        Tests.runAll(MinuteTest.class);
     }
 
-    private static void passAnswersArrivals() {
+    @Says({
+        "Lets minutes go by.",
+        "- `minutes`: how many",
+        "Returns how many riders arrive in them."
+    })
+    private static void promise11PassAnswersArrivals() {
         PodGuideway x = Check.ring(0, 3);
         x.pod(0);
         x.pod(0);
@@ -42,7 +30,8 @@ public final class MinuteTest {
         Check.due("arrived", x.count(5), 2);
     }
 
-    private static void passRefuses() {
+    @Says("Throws `IllegalArgumentException` if minutes is not 1 to 100")
+    private static void promise11PassRefuses() {
         PodGuideway x = Check.ring(0, 3);
         for (int minutes : new int[] {0, -1, 101, Integer.MIN_VALUE, Integer.MAX_VALUE}) {
             Check.refused(x, "pass " + minutes, ARGUMENT, () -> x.pass(minutes));
@@ -52,7 +41,8 @@ public final class MinuteTest {
         Check.due("minutes", x.count(0), 101);
     }
 
-    private static void oncePerMinute() {
+    @Says("Lets minutes go by.")
+    private static void promise11FortyMinutesAreFortyTimesOne() {
         PodGuideway x = Check.ring(0, 3, 17);
         PodGuideway y = Check.ring(0, 3, 17);
         for (PodGuideway z : new PodGuideway[] {x, y}) {
@@ -70,6 +60,10 @@ public final class MinuteTest {
         Check.due("forty minutes or forty times one", x.digest(), y.digest());
     }
 
+    @Says({
+        "1. All slots go one place on, with their pods.",
+        "whose goal this station is,"
+    })
     private static void step1And2PastOtherStations() {
         PodGuideway x = Check.ring(20, 22, 1);
         x.pod(0);
@@ -87,6 +81,7 @@ public final class MinuteTest {
         Check.due("an idle pod stays", Check.told(x, 0), "-1 2 0 -1 0 0");
     }
 
+    @Says("goes off into the free berth with the smallest number,")
     private static void step2SmallestBerth() {
         PodGuideway x = Check.ring(0, 4);
         x.pod(1);
@@ -102,6 +97,7 @@ public final class MinuteTest {
         Check.due("the smallest of two free berths", Check.told(x, 3), "-1 1 0 -1 0 0");
     }
 
+    @Says("Without a free berth it stays in its slot.")
     private static void step2FullBerths() {
         PodGuideway x = Check.ring(0, 1);
         x.pod(1);
@@ -117,6 +113,7 @@ public final class MinuteTest {
         Check.due("gone off", Check.told(x, 3), "-1 1 0 -1 0 2");
     }
 
+    @Says("A minute goes like this:")
     private static void step2And3And5InOneMinute() {
         PodGuideway x = Check.ring(0, 3);
         x.pod(0);
@@ -129,6 +126,9 @@ public final class MinuteTest {
         Check.due("this one had waited for 3", x.count(8), 3);
     }
 
+    @Says("3. Boarding. Stations, by numbers: as long as riders wait there, and a pod is "
+            + "idle there, the first rider gets into the idle one in the berth with the "
+            + "smallest number; its goal is where this rider wants to go.")
     private static void step3OrderOfBoarding() {
         PodGuideway x = Check.ring(0, 6, 12, 18);
         x.pod(0);
@@ -145,6 +145,7 @@ public final class MinuteTest {
         Check.due("the third waits", x.waits(0, 0), 13);
     }
 
+    @Says("Nobody gets into a pod that is ready, empty or not.")
     private static void step3NobodyBoardsReadyPods() {
         PodGuideway x = Check.ring(0, 6, 12);
         x.pod(0);
@@ -158,7 +159,8 @@ public final class MinuteTest {
         Check.due("one waits", x.station(0, 3), 1);
     }
 
-    private static void step3OnlyAfterAllWentOff() {
+    @Says("A minute goes like this:")
+    private static void step4OnlyAfterAllWentOff() {
         // Pod 0 comes in at station 1 in the minute in which station 0 calls: it answers.
         PodGuideway x = Check.ring(0, 3);
         x.pod(0);
@@ -170,6 +172,10 @@ public final class MinuteTest {
         Check.due("calls", x.count(7), 1);
     }
 
+    @Says("it is answered by that of the other stations at which a pod is idle, and nobody "
+            + "waits, from which it is the fewest places on to this one; the idle pod in the "
+            + "berth there with the smallest number has this station as its goal then, and is "
+            + "empty.")
     private static void step4NearestAnswers() {
         PodGuideway x = Check.ring(0, 10, 20);
         x.pod(1);
@@ -187,6 +193,7 @@ public final class MinuteTest {
         Check.due("it comes, the rider goes", Check.told(x, 1), "0 -1 -1 1 1 0");
     }
 
+    @Says("Each calls once a minute at most.")
     private static void step4OneCallAMinute() {
         PodGuideway x = Check.ring(0, 10, 20);
         x.pod(2);
@@ -204,6 +211,8 @@ public final class MinuteTest {
         Check.due("nobody answers any more", x.count(7), 3);
     }
 
+    @Says("one calls, if more riders wait there than empty pods, in berths or slots, called "
+            + "or sent, have it as their goal;")
     private static void step4CountsSentPodsButNoRiders() {
         PodGuideway x = Check.ring(0, 10, 20);
         x.pod(1);
@@ -223,6 +232,7 @@ public final class MinuteTest {
         Check.due("the other is called", Check.told(y, 1), "20 -1 -1 0 0 0");
     }
 
+    @Says("4. Calls. Stations, by numbers:")
     private static void step4LowerStationFirst() {
         PodGuideway x = Check.ring(12, 18, 10);
         x.pod(2);
@@ -234,6 +244,7 @@ public final class MinuteTest {
         Check.due("calls that were answered", x.count(7), 1);
     }
 
+    @Says("A minute goes like this:")
     private static void step4RidersAtHomeFirst() {
         PodGuideway x = Check.ring(12, 18);
         x.pod(1);
@@ -244,6 +255,8 @@ public final class MinuteTest {
         Check.due("no call was answered", x.count(7), 0);
     }
 
+    @Says("5. Merging. Stations, by numbers: if the slot at the place of the station is "
+            + "free,")
     private static void step5SlotMustBeFree() {
         PodGuideway x = Check.ring(0, 1, 5);
         x.pod(0);
@@ -268,6 +281,7 @@ public final class MinuteTest {
         Check.due("into its slot", Check.told(y, 1), "1 -1 -1 2 0 0");
     }
 
+    @Says("the pod that is ready in the berth with the smallest number goes into it.")
     private static void step5SmallestBerth() {
         PodGuideway x = Check.ring(0, 12);
         x.pod(0);

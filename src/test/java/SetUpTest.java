@@ -8,18 +8,10 @@ public final class SetUpTest {
     }
 
     public static void main(String[] args) {
-        promise1NewObject();
-        promise2Build();
-        promise2BuildRefuses();
-        promise3Pod();
-        promise3PodRefuses();
-        promise4Ride();
-        promise4RideRefuses();
-        promise5Send();
-        promise5SendRefuses();
-        Check.finish();
+        Tests.runAll(SetUpTest.class);
     }
 
+    @Says("Creates a ring without stations and pods, in the minute 0.")
     private static void promise1NewObject() {
         PodGuideway x = new PodGuideway();
         Check.due("counts of a new object", Check.counts(x), "0 0 0 0 0 0 24 0 0");
@@ -37,6 +29,10 @@ public final class SetUpTest {
         Check.due("objects are apart", Check.counts(other), "0 0 0 0 0 0 24 0 0");
     }
 
+    @Says({
+        "- `place`: the place of a new station",
+        "Returns its number."
+    })
     private static void promise2Build() {
         PodGuideway x = new PodGuideway();
         int[] places = {0, 23, 12, 1, 22, 7};
@@ -49,6 +45,10 @@ public final class SetUpTest {
         Check.due("pods are none", x.count(2), 0);
     }
 
+    @Says({
+        "Throws `IndexOutOfBoundsException` if place is not 0 to 23",
+        "Throws `IllegalStateException` if there are 6, or one is there"
+    })
     private static void promise2BuildRefuses() {
         PodGuideway x = Check.ring(0, 23);
         for (int place : new int[] {-1, 24, 100, Integer.MIN_VALUE, Integer.MAX_VALUE}) {
@@ -65,6 +65,11 @@ public final class SetUpTest {
         Check.refused(x, "a seventh at no place", BOUNDS, () -> x.build(24));
     }
 
+    @Says({
+        "A new pod, idle, in the free berth of a station with the smallest number.",
+        "- `station`: the station",
+        "Returns its number."
+    })
     private static void promise3Pod() {
         PodGuideway x = Check.ring(4, 9);
         Check.due("first pod", x.pod(1), 0);
@@ -82,6 +87,10 @@ public final class SetUpTest {
         Check.due("pods", x.count(2), 5);
     }
 
+    @Says({
+        "Throws `IndexOutOfBoundsException` if there is no such station",
+        "Throws `IllegalStateException` if there are 12, or no berth is free"
+    })
     private static void promise3PodRefuses() {
         PodGuideway x = Check.ring(0, 1, 2, 3, 4);
         for (int station : new int[] {-1, 5, 6, Integer.MIN_VALUE, Integer.MAX_VALUE}) {
@@ -98,6 +107,12 @@ public final class SetUpTest {
         Check.refused(x, "a thirteenth nowhere", BOUNDS, () -> x.pod(5));
     }
 
+    @Says({
+        "A rider comes, and waits.",
+        "- `from`: the station where this one waits",
+        "- `to`: the station where this one wants to go",
+        "Returns how many wait there then."
+    })
     private static void promise4Ride() {
         PodGuideway x = Check.ring(4, 9, 14);
         for (int come = 1; come <= 9; come++) {
@@ -114,6 +129,11 @@ public final class SetUpTest {
         Check.due("a rider waits though a pod is idle", Check.station(y, 0), "4 1 1 1 0 0 0");
     }
 
+    @Says({
+        "Throws `IndexOutOfBoundsException` if there is no such station",
+        "Throws `IllegalArgumentException` if both are the same",
+        "Throws `IllegalStateException` if 9 wait there"
+    })
     private static void promise4RideRefuses() {
         PodGuideway x = Check.ring(4, 9);
         Check.refused(x, "ride from nowhere", BOUNDS, () -> x.ride(2, 0));
@@ -133,6 +153,12 @@ public final class SetUpTest {
         Check.due("the other station is free for riders", x.ride(0, 1), 1);
     }
 
+    @Says({
+        "Sends an idle pod, empty, to another station.",
+        "- `pod`: the pod",
+        "- `station`: the station",
+        "Returns how many places on it is."
+    })
     private static void promise5Send() {
         PodGuideway x = Check.ring(20, 3, 21);
         x.pod(0);
@@ -147,6 +173,10 @@ public final class SetUpTest {
         Check.due("a send is no call", x.count(7), 0);
     }
 
+    @Says({
+        "Throws `IndexOutOfBoundsException` if there is no such pod or station",
+        "Throws `IllegalStateException` if it is not idle, or is there"
+    })
     private static void promise5SendRefuses() {
         PodGuideway x = Check.ring(4, 9);
         x.pod(0);

@@ -4,13 +4,10 @@ public final class SumsTest {
     }
 
     public static void main(String[] args) {
-        promise16Mean();
-        promise17DigestOfNewObject();
-        promise17DigestInItsOrder();
-        promise17DigestWraps();
-        Check.finish();
+        Tests.runAll(SumsTest.class);
     }
 
+    @Says("Returns the mean of the minutes that all who wait have waited; 0 if nobody waits.")
     private static void promise16Mean() {
         PodGuideway x = Check.ring(0, 3, 9);
         Check.due("nobody waits", x.mean(), 0.0);
@@ -40,6 +37,10 @@ public final class SumsTest {
         return d;
     }
 
+    @Says({
+        "Computes a checksum. A number d starts with 1399;",
+        "Returns d."
+    })
     private static void promise17DigestOfNewObject() {
         long d = mixed(1399L, 0, 0, 0, 0, 0, 0, 24, 0, 0);
         for (int place = 0; place < 24; place++) {
@@ -48,6 +49,12 @@ public final class SumsTest {
         Check.due("digest of a new object", new PodGuideway().digest(), d);
     }
 
+    @Says({
+        "for each of the following numbers x, d becomes d * 31 + x,",
+        "what count() tells, in its order; for each station what station() tells, in its "
+            + "order, and what waits() tells of each one who waits there; for each pod what "
+            + "told() tells; for each place what slot() tells."
+    })
     private static void promise17DigestInItsOrder() {
         PodGuideway x = Check.ring(0, 3);
         x.pod(0);
@@ -70,6 +77,7 @@ public final class SumsTest {
         Check.due("digest changes nothing", x.digest(), d);
     }
 
+    @Says("which wraps around as a 64-bit integer:")
     private static void promise17DigestWraps() {
         PodGuideway x = Check.ring(0);
         long before = x.digest();

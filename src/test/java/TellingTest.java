@@ -6,15 +6,17 @@ public final class TellingTest {
     }
 
     public static void main(String[] args) {
-        promise6Told();
-        promise6ToldOfBarredPods();
-        promise7Station();
-        promise8Waits();
-        promise9Slot();
-        promise10Count();
-        Check.finish();
+        Tests.runAll(TellingTest.class);
     }
 
+    @Says({
+        "- `pod`: a pod",
+        "- `what`: 0 the place of its slot, -1 in a berth, 1 the station in whose berth it "
+            + "is, -1 in a slot, 2 the berth, -1 in a slot, 3 its goal, -1 for none, 4 1 if it "
+            + "has a rider, else 0,",
+        "Returns this.",
+        "Throws `IndexOutOfBoundsException` if there is no such pod, or what is not 0 to 5"
+    })
     private static void promise6Told() {
         PodGuideway x = Check.ring(22, 2);
         x.pod(0);
@@ -44,6 +46,7 @@ public final class TellingTest {
         }
     }
 
+    @Says("5 times in all that it could not go off for want of a berth")
     private static void promise6ToldOfBarredPods() {
         PodGuideway x = Check.ring(0, 1);
         x.pod(1);
@@ -64,6 +67,15 @@ public final class TellingTest {
         Check.due("it goes off at last", Check.told(x, 3), "-1 1 1 -1 0 2");
     }
 
+    @Says({
+        "- `station`: a station",
+        "- `what`: 0 its place, 1 pods in its berths, 2 idle ones of these, 3 riders who "
+            + "wait, 4 empty pods that have it as their goal, 5 minutes that all who wait there "
+            + "have waited, added, 6 riders who arrived there in all",
+        "Returns this.",
+        "Throws `IndexOutOfBoundsException` if there is no such station, or what is not 0 "
+            + "to 6"
+    })
     private static void promise7Station() {
         PodGuideway x = Check.ring(5, 10);
         x.pod(0);
@@ -93,6 +105,13 @@ public final class TellingTest {
         }
     }
 
+    @Says({
+        "- `station`: a station",
+        "- `rider`: a place among those who wait there, from 0",
+        "Returns 10 * the minutes that this rider has waited, and the station where this "
+            + "one wants to go, added.",
+        "Throws `IndexOutOfBoundsException` if there is no such station or rider"
+    })
     private static void promise8Waits() {
         PodGuideway x = Check.ring(5, 10, 15);
         x.ride(0, 2);
@@ -117,6 +136,11 @@ public final class TellingTest {
                 () -> x.waits(Integer.MAX_VALUE, Integer.MIN_VALUE));
     }
 
+    @Says({
+        "- `place`: a place",
+        "Returns the pod in the slot there; -1 if it is free.",
+        "Throws `IndexOutOfBoundsException` if place is not 0 to 23"
+    })
     private static void promise9Slot() {
         PodGuideway x = Check.ring(23, 1);
         x.pod(0);
@@ -139,6 +163,13 @@ public final class TellingTest {
         }
     }
 
+    @Says({
+        "- `what`: 0 the minute, 1 stations, 2 pods, 3 riders who wait, 4 riders in pods, "
+            + "5 riders who arrived in all, 6 free slots, 7 calls that were answered in all, 8 "
+            + "minutes that all who got into a pod had waited, added",
+        "Returns this.",
+        "Throws `IndexOutOfBoundsException` if what is not 0 to 8"
+    })
     private static void promise10Count() {
         PodGuideway x = Check.ring(0, 3);
         x.pod(0);
