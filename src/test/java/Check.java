@@ -11,6 +11,10 @@ final class Check {
         return made;
     }
 
+    static int wrong() {
+        return wrong;
+    }
+
     /** What is looked at from here on is told with this name. */
     static void begin(String name) {
         test = name + ": ";

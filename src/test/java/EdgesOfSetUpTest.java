@@ -189,6 +189,16 @@ public final class EdgesOfSetUpTest {
         return x;
     }
 
+    @Says("A new pod, idle, in the free berth of a station with the smallest number.")
+    private static void promise3IdleThoughARiderWaits() {
+        PodGuideway x = Edges.nineWait();
+        x.pod(0);
+        Check.due("idle", Check.told(x, 0), "-1 0 0 -1 0 0");
+        Check.due("all wait on", Check.station(x, 0), "0 1 1 9 0 0 0");
+        x.pass(1);
+        Check.due("the first gets in in the next minute", x.station(0, 3), 8);
+    }
+
     @Says("Returns its number.")
     private static void promise3NumbersAre0To11() {
         PodGuideway x = Edges.sixStations();
@@ -461,6 +471,21 @@ public final class EdgesOfSetUpTest {
         Edges.refused("a pod in a slot to 6", Edges.BOUNDS, Edges::fullRing, x -> x.send(0, 6));
         Edges.refused("a pod in a slot to -1", Edges.BOUNDS, Edges::fullRing, x -> x.send(0, -1));
         Edges.refused("neither is there", Edges.BOUNDS, Edges::fullRing, x -> x.send(12, 6));
+    }
+
+    @Says({"- `pod`: the pod", "- `station`: the station"})
+    private static void promise5EachPodToEachStation() {
+        for (int pod = 0; pod < 12; pod++) {
+            for (int to = 0; to < 6; to++) {
+                PodGuideway x = Edges.twelveIdle();
+                if (to != pod / 3) {
+                    x.send(pod, to);
+                    Check.due("goal of " + pod, x.told(pod, 3), to);
+                    Check.due("empty pods to " + to, x.station(to, 4), 1);
+                    Check.due("the others are idle", x.station(pod / 3, 2), 2);
+                }
+            }
+        }
     }
 
     @Says("Sends an idle pod, empty, to another station.")

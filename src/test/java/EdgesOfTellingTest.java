@@ -309,6 +309,23 @@ public final class EdgesOfTellingTest {
         }
     }
 
+    @Says("- `station`: a station")
+    private static void promise8EachStationHasRidersOfItsOwn() {
+        PodGuideway x = Edges.sixStations();
+        for (int station = 0; station < 6; station++) {
+            x.ride(station, (station + 1) % 6);
+            x.pass(1);
+            x.ride(station, (station + 5) % 6);
+        }
+        for (int station = 0; station < 6; station++) {
+            int minutes = 6 - station;
+            Check.due("the first at " + station, x.waits(station, 0),
+                    10 * minutes + (station + 1) % 6);
+            Check.due("the second at " + station, x.waits(station, 1),
+                    10 * (minutes - 1) + (station + 5) % 6);
+        }
+    }
+
     @Says("Throws `IndexOutOfBoundsException` if there is no such station or rider")
     private static void promise8NobodyWaits() {
         Edges.refused("the first of nobody", Edges.BOUNDS, Edges::nineWait, x -> x.waits(1, 0));
@@ -423,6 +440,22 @@ public final class EdgesOfTellingTest {
         Check.due("the last minute ahead", Check.counts(x), "20 6 12 0 12 0 12 0 0");
         x.pass(6);
         Check.due("all have arrived", Check.counts(x), "26 6 12 0 0 12 24 0 0");
+    }
+
+    @Says("7 calls that were answered in all,")
+    private static void promise10CallsOfAllStationsAreAdded() {
+        PodGuideway x = Edges.twelveIdle();
+        for (int rider = 0; rider < 3; rider++) {
+            x.ride(4, 0);
+            x.ride(5, 0);
+        }
+        for (int minute = 1; minute <= 3; minute++) {
+            x.pass(1);
+            Check.due("two more in minute " + minute, x.count(7), 2 * minute);
+        }
+        x.send(0, 4);
+        x.pass(20);
+        Check.due("who is sent is not called", x.count(7), 6);
     }
 
     @Says("7 calls that were answered in all, 8 minutes that all who got into a pod had waited, "

@@ -356,6 +356,18 @@ public final class EdgesOfTermsTest {
     }
 
     @Says("its rider, if it has one, has arrived.")
+    private static void step2TwoRidersHaveArrived() {
+        PodGuideway x = Check.ring(0, 23);
+        x.pod(1);
+        x.pod(1);
+        x.ride(1, 0);
+        x.ride(1, 0);
+        Check.due("the first", x.pass(2), 1);
+        Check.due("the second", x.pass(1), 1);
+        Check.due("both", x.station(0, 6), 2);
+    }
+
+    @Says("its rider, if it has one, has arrived.")
     private static void step2EmptyPodBringsNobody() {
         PodGuideway x = Check.ring(0, 23);
         x.pod(1);
@@ -656,6 +668,26 @@ public final class EdgesOfTermsTest {
         }
     }
 
+    @Says("one calls, if more riders wait there than empty pods")
+    private static void step4CallsThoughItsBerthsAreFull() {
+        // Three ready pods with riders are in its berths, pod 3 passes by: none can merge.
+        PodGuideway x = Check.ring(0, 1, 12);
+        for (int pod = 0; pod < 3; pod++) {
+            x.pod(1);
+        }
+        x.pod(0);
+        x.pod(2);
+        x.send(3, 2);
+        x.pass(1);
+        for (int rider = 0; rider < 4; rider++) {
+            x.ride(1, 2);
+        }
+        x.pass(1);
+        Check.due("no berth is free", Check.station(x, 1), "1 3 0 1 1 1 0");
+        Check.due("calls", x.count(7), 1);
+        Check.due("the pod that is called", Check.told(x, 4), "12 -1 -1 1 0 0");
+    }
+
     @Says("Each calls once a minute at most.")
     private static void step4OnceAMinuteThoughNineWait() {
         PodGuideway x = nineWaitAtTheEnd();
@@ -932,6 +964,19 @@ public final class EdgesOfTermsTest {
             Check.due("rider " + rider, x.waits(0, rider), 11);
         }
         Check.due("added", x.station(0, 5), 9);
+    }
+
+    @Says("6. Each rider who waits has waited for a minute more.")
+    private static void step6RidersWhoCameInSeveralMinutes() {
+        PodGuideway x = Check.ring(0, 7);
+        for (int rider = 0; rider < 3; rider++) {
+            x.ride(0, 1);
+            x.pass(1);
+        }
+        Check.due("each", Check.row(x.waits(0, 0), x.waits(0, 1), x.waits(0, 2)), "31 21 11");
+        x.pass(1);
+        Check.due("a minute more", Check.row(x.waits(0, 0), x.waits(0, 1), x.waits(0, 2)),
+                "41 31 21");
     }
 
     @Says("Each rider who waits has waited for a minute more.")

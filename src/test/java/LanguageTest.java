@@ -12,6 +12,7 @@ import java.io.IOException;
 import java.nio.file.DirectoryStream;
 import java.nio.file.Files;
 import java.nio.file.Path;
+import java.util.Collections;
 import java.util.HashMap;
 import java.util.HashSet;
 import java.util.LinkedHashSet;
@@ -152,11 +153,12 @@ public final class LanguageTest {
         none("no + on texts, no % and no steps on doubles", doubleKinds());
         for (TreePath call : source.all(Kind.METHOD_INVOCATION)) {
             ExecutableElement called = (ExecutableElement) source.element(call);
+            boolean fractions = isFraction(called.getReturnType());
             for (VariableElement taken : called.getParameters()) {
-                Check.due("no library on doubles at " + source.at(call),
-                        isOwn(called.getEnclosingElement().asType())
-                                || !isFraction(taken.asType()));
+                fractions = fractions || isFraction(taken.asType());
             }
+            Check.due("no library on doubles at " + source.at(call),
+                    !fractions || isOwn(called.getEnclosingElement().asType()));
         }
     }
 
@@ -186,6 +188,10 @@ public final class LanguageTest {
 
     private static void rule4Library() {
         Check.begin("rules 4 and 13");
+        for (TreePath path : source.all(Kind.IMPORT)) {
+            Check.due(source.at(path), source.words(path.getLeaf()).matches("import java\\.util\\."
+                    + "(Arrays|ArrayList|List|Iterator|NoSuchElementException|\\*);"));
+        }
         for (TreePath call : source.all(Kind.METHOD_INVOCATION)) {
             Element called = source.element(call);
             TypeMirror owner = called.getEnclosingElement().asType();
@@ -256,6 +262,10 @@ public final class LanguageTest {
 
     private static void rule6Others() {
         none("no synchronized", Kind.SYNCHRONIZED);
+        for (TreePath path : source.all(Kind.METHOD, Kind.VARIABLE)) {
+            Check.due("at " + source.at(path), Collections.disjoint(Set.of(Modifier.SYNCHRONIZED,
+                    Modifier.NATIVE, Modifier.VOLATILE), source.element(path).getModifiers()));
+        }
         none("no assert", Kind.ASSERT);
         for (TreePath path : source.all(Kind.METHOD)) {
             String name = ((MethodTree) path.getLeaf()).getName().toString();

@@ -68,7 +68,7 @@ public final class SentencesTest {
         }
     }
 
-    private static String sectionOf(String test) {
+    static String sectionOf(String test) {
         Matcher number = Pattern.compile("promise(\\d+)\\D.*").matcher(test);
         return number.matches() ? "Promise " + number.group(1) : Document.TERMS;
     }

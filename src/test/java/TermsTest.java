@@ -221,6 +221,15 @@ public final class TermsTest {
         x.pass(1);
         Check.due("who has got in does not call", x.count(7), 0);
         Check.due("the other one is idle", x.told(1, 3), -1);
+        // All have got in before the first one calls.
+        PodGuideway y = Check.ring(4, 9);
+        y.pod(1);
+        y.pod(1);
+        y.ride(0, 1);
+        y.ride(1, 0);
+        y.pass(1);
+        Check.due("the rider of station 1 is in", Check.told(y, 0), "9 -1 -1 0 1 0");
+        Check.due("and nobody waits there", Check.told(y, 1), "-1 1 1 0 0 0");
     }
 
     @Says("A minute goes like this:")
