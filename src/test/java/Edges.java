@@ -72,6 +72,15 @@ final class Edges {
         return x;
     }
 
+    /** Two stations, and three idle pods in the berths of the first one. */
+    static PodGuideway threeIdle() {
+        PodGuideway x = Check.ring(0, 7);
+        x.pod(0);
+        x.pod(0);
+        x.pod(0);
+        return x;
+    }
+
     /** All twelve pods are in slots, empty and with goals far off; nobody waits. */
     static PodGuideway fullRing() {
         PodGuideway x = twelveIdle();

@@ -180,10 +180,7 @@ public final class EdgesOfSetUpTest {
     }
 
     private static PodGuideway oneBerthFree(int free) {
-        PodGuideway x = Check.ring(0, 7);
-        x.pod(0);
-        x.pod(0);
-        x.pod(0);
+        PodGuideway x = Edges.threeIdle();
         x.send(free, 1);
         x.pass(1);
         return x;
@@ -225,14 +222,14 @@ public final class EdgesOfSetUpTest {
         x.pod(0);
         x.pod(0);
         Check.due("the third", x.pod(0), 2);
-        Edges.refused("a fourth", Edges.STATE, EdgesOfSetUpTest::threePods, r -> r.pod(0));
+        Edges.refused("a fourth", Edges.STATE, Edges::threeIdle, r -> r.pod(0));
         Check.due("elsewhere", x.pod(1), 3);
     }
 
     @Says("Throws `IllegalStateException` if there are 12, or no berth is free")
     private static void promise3ReadyPodsKeepTheirBerths() {
         Edges.Scene ready = () -> {
-            PodGuideway x = threePods();
+            PodGuideway x = Edges.threeIdle();
             x.send(0, 1);
             x.send(1, 1);
             x.send(2, 1);
@@ -253,14 +250,6 @@ public final class EdgesOfSetUpTest {
     private static void promise3StationIsNamedAheadOfTwelve() {
         Edges.refused("6, 12 there", Edges.BOUNDS, Edges::twelveIdle, x -> x.pod(6));
         Edges.refused("-1, 12 there", Edges.BOUNDS, Edges::twelveIdle, x -> x.pod(-1));
-    }
-
-    private static PodGuideway threePods() {
-        PodGuideway x = Check.ring(0, 7);
-        x.pod(0);
-        x.pod(0);
-        x.pod(0);
-        return x;
     }
 
     // ---- promise 4
@@ -350,7 +339,7 @@ public final class EdgesOfSetUpTest {
 
     @Says("A rider comes, and waits.")
     private static void promise4RiderWaitsThoughAPodIsIdle() {
-        PodGuideway x = threePods();
+        PodGuideway x = Edges.threeIdle();
         Check.due("answer", x.ride(0, 1), 1);
         Check.due("nothing else is done", Check.station(x, 0), "0 3 3 1 0 0 0");
         Check.due("riders in pods", x.count(4), 0);
@@ -385,7 +374,7 @@ public final class EdgesOfSetUpTest {
         for (int pod : new int[] {-1, 12, LEAST, MOST}) {
             Edges.refused("pod " + pod, Edges.BOUNDS, Edges::twelveIdle, r -> r.send(pod, 5));
         }
-        Edges.refused("pod 3 of 3", Edges.BOUNDS, EdgesOfSetUpTest::threePods, r -> r.send(3, 1));
+        Edges.refused("pod 3 of 3", Edges.BOUNDS, Edges::threeIdle, r -> r.send(3, 1));
     }
 
     @Says("Throws `IndexOutOfBoundsException` if there is no such pod or station")
@@ -397,14 +386,14 @@ public final class EdgesOfSetUpTest {
             Edges.refused("station " + station, Edges.BOUNDS, Edges::twelveIdle,
                     r -> r.send(0, station));
         }
-        Edges.refused("station 2 of 2", Edges.BOUNDS, EdgesOfSetUpTest::threePods,
+        Edges.refused("station 2 of 2", Edges.BOUNDS, Edges::threeIdle,
                 r -> r.send(0, 2));
     }
 
     @Says("Throws `IllegalStateException` if it is not idle, or is there")
     private static void promise5PodIsReady() {
         Edges.Scene ready = () -> {
-            PodGuideway x = threePods();
+            PodGuideway x = Edges.threeIdle();
             x.build(12);
             x.send(0, 1);
             return x;
@@ -419,7 +408,7 @@ public final class EdgesOfSetUpTest {
     @Says("Throws `IllegalStateException` if it is not idle, or is there")
     private static void promise5PodIsReadyWithARider() {
         Edges.Scene scene = () -> {
-            PodGuideway x = threePods();
+            PodGuideway x = Edges.threeIdle();
             x.ride(0, 1);
             x.ride(0, 1);
             x.pass(1);
@@ -453,7 +442,7 @@ public final class EdgesOfSetUpTest {
     private static void promise5PodIsThere() {
         for (int pod = 0; pod < 3; pod++) {
             int sent = pod;
-            Edges.refused("pod " + pod, Edges.STATE, EdgesOfSetUpTest::threePods,
+            Edges.refused("pod " + pod, Edges.STATE, Edges::threeIdle,
                     x -> x.send(sent, 0));
         }
         Edges.refused("on a ring of one station", Edges.STATE, EdgesOfSetUpTest::oneStation,
@@ -490,7 +479,7 @@ public final class EdgesOfSetUpTest {
 
     @Says("Sends an idle pod, empty, to another station.")
     private static void promise5SentPodIsReadyAndEmpty() {
-        PodGuideway x = threePods();
+        PodGuideway x = Edges.threeIdle();
         x.ride(0, 1);
         x.send(0, 1);
         Check.due("sent", Check.told(x, 0), "-1 0 0 1 0 0");

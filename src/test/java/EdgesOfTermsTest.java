@@ -160,20 +160,12 @@ public final class EdgesOfTermsTest {
             Check.due("berth " + berth, x.told(pod, 2), berth);
         }
         Check.due("full", Check.station(x, 0), "0 3 3 0 0 0 0");
-        Edges.refused("a fourth", Edges.STATE, EdgesOfTermsTest::fullBerths, r -> r.pod(0));
+        Edges.refused("a fourth", Edges.STATE, Edges::threeIdle, r -> r.pod(0));
         for (int pod = 0; pod < 3; pod++) {
             x.send(pod, 1);
         }
         x.pass(3);
         Check.due("empty again", Check.station(x, 0), "0 0 0 0 0 0 0");
-    }
-
-    private static PodGuideway fullBerths() {
-        PodGuideway x = Check.ring(0, 7);
-        x.pod(0);
-        x.pod(0);
-        x.pod(0);
-        return x;
     }
 
     @Says("and riders who wait, at most 9,")
@@ -245,7 +237,7 @@ public final class EdgesOfTermsTest {
 
     @Says("A pod in a berth without a goal is idle; one in a berth with a goal is ready.")
     private static void podInABerthIsIdleOrReady() {
-        PodGuideway x = fullBerths();
+        PodGuideway x = Edges.threeIdle();
         for (int pod = 0; pod < 3; pod++) {
             Check.due("idle ones", x.station(0, 2), 3 - pod);
             x.send(pod, 1);
@@ -442,7 +434,7 @@ public final class EdgesOfTermsTest {
 
     @Says("as long as riders wait there, and a pod is idle there,")
     private static void step3NobodyWaits() {
-        PodGuideway x = fullBerths();
+        PodGuideway x = Edges.threeIdle();
         x.pass(1);
         Check.due("all stay idle", Check.station(x, 0), "0 3 3 0 0 0 0");
     }
@@ -456,7 +448,7 @@ public final class EdgesOfTermsTest {
 
     @Says("as long as riders wait there, and a pod is idle there,")
     private static void step3AsManyRidersAsIdlePods() {
-        PodGuideway x = fullBerths();
+        PodGuideway x = Edges.threeIdle();
         for (int rider = 0; rider < 3; rider++) {
             x.ride(0, 1);
         }
@@ -478,7 +470,7 @@ public final class EdgesOfTermsTest {
 
     @Says("the first rider gets into the idle one in the berth with the smallest number;")
     private static void step3FewerRidersThanIdlePods() {
-        PodGuideway x = fullBerths();
+        PodGuideway x = Edges.threeIdle();
         x.ride(0, 1);
         x.pass(1);
         Check.due("pod of berth 0", Check.told(x, 0), "0 -1 -1 1 1 0");
@@ -515,7 +507,7 @@ public final class EdgesOfTermsTest {
 
     @Says("Nobody gets into a pod that is ready, empty or not.")
     private static void step3ReadyEmptyPodsGoEmpty() {
-        PodGuideway x = fullBerths();
+        PodGuideway x = Edges.threeIdle();
         x.send(0, 1);
         x.send(1, 1);
         x.ride(0, 1);
@@ -564,7 +556,7 @@ public final class EdgesOfTermsTest {
     @Says("one calls, if more riders wait there than empty pods, in berths or slots, called or "
             + "sent, have it as their goal;")
     private static void step4NobodyWaitsAndNoneComes() {
-        PodGuideway x = fullBerths();
+        PodGuideway x = Edges.threeIdle();
         x.pass(1);
         Check.due("calls", x.count(7), 0);
         Check.due("pods that come", x.station(1, 4), 0);
@@ -572,7 +564,7 @@ public final class EdgesOfTermsTest {
 
     @Says("one calls, if more riders wait there than empty pods")
     private static void step4OneWaitsAndNoneComes() {
-        PodGuideway x = fullBerths();
+        PodGuideway x = Edges.threeIdle();
         x.ride(1, 0);
         x.pass(1);
         Check.due("calls", x.count(7), 1);
@@ -583,18 +575,18 @@ public final class EdgesOfTermsTest {
 
     @Says("in berths or slots, called or sent, have it as their goal;")
     private static void step4AsManyComeAsWait() {
-        PodGuideway inBerth = fullBerths();
+        PodGuideway inBerth = Edges.threeIdle();
         inBerth.send(0, 1);
         inBerth.ride(1, 0);
         inBerth.pass(1);
         Check.due("sent, in a berth", inBerth.count(7), 0);
-        PodGuideway inSlot = fullBerths();
+        PodGuideway inSlot = Edges.threeIdle();
         inSlot.send(0, 1);
         inSlot.pass(1);
         inSlot.ride(1, 0);
         inSlot.pass(1);
         Check.due("sent, in a slot", inSlot.count(7), 0);
-        PodGuideway called = fullBerths();
+        PodGuideway called = Edges.threeIdle();
         called.ride(1, 0);
         called.pass(1);
         called.pass(1);
@@ -603,7 +595,7 @@ public final class EdgesOfTermsTest {
 
     @Says("one calls, if more riders wait there than empty pods")
     private static void step4OneMoreWaitsThanCome() {
-        PodGuideway x = fullBerths();
+        PodGuideway x = Edges.threeIdle();
         x.send(0, 1);
         x.ride(1, 0);
         x.ride(1, 0);
@@ -616,7 +608,7 @@ public final class EdgesOfTermsTest {
 
     @Says("one calls, if more riders wait there than empty pods")
     private static void step4FewerWaitThanCome() {
-        PodGuideway x = fullBerths();
+        PodGuideway x = Edges.threeIdle();
         x.send(0, 1);
         x.send(1, 1);
         x.ride(1, 0);
@@ -627,7 +619,7 @@ public final class EdgesOfTermsTest {
 
     @Says("than empty pods, in berths or slots")
     private static void step4PodWithARiderDoesNotCount() {
-        PodGuideway x = fullBerths();
+        PodGuideway x = Edges.threeIdle();
         x.ride(0, 1);
         x.ride(1, 0);
         x.pass(1);
@@ -898,7 +890,7 @@ public final class EdgesOfTermsTest {
 
     @Says("the pod that is ready in the berth with the smallest number goes into it.")
     private static void step5ThreeReadyPodsMergeInThreeMinutes() {
-        PodGuideway x = fullBerths();
+        PodGuideway x = Edges.threeIdle();
         x.send(2, 1);
         x.send(0, 1);
         x.send(1, 1);
@@ -933,7 +925,7 @@ public final class EdgesOfTermsTest {
 
     @Says("the pod that is ready in the berth with the smallest number goes into it.")
     private static void step5IdlePodsDoNotMerge() {
-        PodGuideway x = fullBerths();
+        PodGuideway x = Edges.threeIdle();
         x.send(2, 1);
         x.pass(1);
         Check.due("the only ready one, in the last berth", x.slot(0), 2);
